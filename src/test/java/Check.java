@@ -1,3 +1,6 @@
+import java.util.function.Supplier;
+import java.util.function.ToLongFunction;
+
 /** Counts and prints the answers that are not the ones that are due. */
 final class Check {
     private int wrong = 0;
@@ -15,7 +18,33 @@ final class Check {
         due(what, got ? 1 : 0, want ? 1 : 0);
     }
 
-    /** Looks at every answer that a look at the heap gives, so that a call that must change nothing can be told. */
+    void same(String what, String got, String want) {
+        looked++;
+        if (!got.equals(want)) {
+            wrong++;
+            System.out.println(what + ":\n  is  " + got + "\n  due " + want);
+        }
+    }
+
+    /** Of two heaps built alike one is asked: it gives the answer due, and then both go on alike. */
+    void changesNothing(String what, Supplier<EphemeronHeap> build, ToLongFunction<EphemeronHeap> call, long want) {
+        EphemeronHeap asked = build.get();
+        due(what, call.applyAsLong(asked), want);
+        same("after " + what, future(asked), future(build.get()));
+    }
+
+    boolean allAsDue() {
+        return looked > 0 && wrong == 0;
+    }
+
+    void end() {
+        System.out.println(looked + " answers, " + wrong + " of them not as due");
+        if (!allAsDue()) {
+            System.exit(1);
+        }
+    }
+
+    /** Every answer that a look at the heap gives, in 89 calls. */
     static String state(EphemeronHeap heap) {
         StringBuilder text = new StringBuilder();
         text.append("objects ").append(heap.objects()).append(" there ").append(heap.there());
@@ -31,19 +60,21 @@ final class Check {
         return text.toString();
     }
 
-    void same(String what, String got, String want) {
-        looked++;
-        if (!got.equals(want)) {
-            wrong++;
-            System.out.println(what + ":\n  is  " + got + "\n  due " + want);
+    /** The state, and what only later calls show: the queue's order, who is put into it, which numbers are free. */
+    private static String future(EphemeronHeap heap) {
+        StringBuilder text = new StringBuilder(state(heap));
+        text.append("\n  taken");
+        for (int i = 0; i < 21; i++) {
+            text.append(' ').append(heap.take(0));
         }
-    }
-
-    void end() {
-        System.out.println(looked + " answers, " + wrong + " of them not as due");
-        if (wrong != 0) {
-            System.exit(1);
+        for (int r = 0; r < 4; r++) {
+            heap.root(r, EphemeronHeap.NONE);
         }
+        text.append("\n  gone ").append(heap.clean()).append(' ').append(state(heap)).append("\n  made");
+        for (int i = 0; i < 21; i++) {
+            text.append(' ').append(heap.make(0, 0));
+        }
+        return text.append("\n  ").append(state(heap)).toString();
     }
 
     /** The set that has these objects. */
@@ -53,15 +84,5 @@ final class Check {
             bits |= 1 << o;
         }
         return bits;
-    }
-
-    /** A heap of objects 0, 1, .. of these kinds, which nothing keeps alive. */
-    static EphemeronHeap unrooted(int... kinds) {
-        EphemeronHeap heap = new EphemeronHeap();
-        for (int kind : kinds) {
-            heap.make(kind, 0);
-        }
-        heap.root(0, EphemeronHeap.NONE);
-        return heap;
     }
 }
