@@ -109,4 +109,13 @@ final class Heaps {
         heap.watch(7);
         return heap;
     }
+
+    /** The mixed heap filled up: twenty objects, root 3 points to 19, and those that were made last before it are not alive. */
+    static EphemeronHeap mixedAndFull() {
+        EphemeronHeap heap = mixed();
+        for (int i = 0; i < 11; i++) {
+            heap.make(i % 3, 3);
+        }
+        return heap;
+    }
 }

@@ -14,7 +14,7 @@ public final class Promise2Test {
 
     private static void refusedWhenFull(Check check, int kind, int r, int want) {
         String call = "make(" + kind + ", " + r + ") when there are twenty";
-        check.changesNothing(call, Heaps::twenty, heap -> heap.make(kind, r), want);
+        check.changesNothing(call, Heaps::mixedAndFull, heap -> heap.make(kind, r), want);
     }
 
     static void kindBelow(Check check) {
